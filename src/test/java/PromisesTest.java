@@ -223,6 +223,7 @@ public final class PromisesTest {
         dueTables("symmetric group of 4", with("00", "222", "02020202"), 1, 1, 3, 4, 0);
         dueTables("quaternions", with("0022", "0303", "0000"), 1, 3, 0, 3, 0);
         dueTables("klein bottle", with("0212"), 1, 3, 4, 7, 6);
+        dueTables("the last of four", with("", "01", "0213", "2"), 1, 1, 1, 1, 1);
         dueTables("words that cancel", with("01", "2332", "", "02310132"), 1, 3, 13, 71, 461);
     }
 
@@ -391,6 +392,8 @@ public final class PromisesTest {
         dueStill("aa", with("00"), "00", 1);
         dueStill("aa", with("00"), "11", 1);
         dueStill("aa", with("00"), "22", 0);
+        dueStill("aa", with("00", "2"), "0", 0);
+        dueStill("a3", with("000", "2"), "0", 0);
         dueStill("a5", with("00000", "2"), "0", 0);
         dueStill("a4", with("0000", "2"), "00", 0);
         // A cycle of 7 points is too large to show; one of 5 points shows in the last tables only.

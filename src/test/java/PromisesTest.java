@@ -35,35 +35,6 @@ public final class PromisesTest {
         Due.end();
     }
 
-    /** Puts the word anew: a digit a letter. */
-    private static void put(CosetTables x, String letters) {
-        x.clear();
-        for (int i = 0; i < letters.length(); i++) {
-            x.letter(letters.charAt(i) - '0');
-        }
-    }
-
-    private static CosetTables with(String... relators) {
-        CosetTables x = new CosetTables();
-        for (String relator : relators) {
-            put(x, relator);
-            x.relate();
-        }
-        x.clear();
-        return x;
-    }
-
-    /** The word's number as the document tells it, from its letters. */
-    private static int number(String letters) {
-        return Integer.parseInt("1" + letters, 4);
-    }
-
-    private static void dueTables(String what, CosetTables x, int... want) {
-        for (int n = 1; n <= 5; n++) {
-            Due.same(what + ": tables(" + n + ")", x.tables(n), want[n - 1]);
-        }
-    }
-
     private static void constants() {
         Due.same("BAD_ARG", CosetTables.BAD_ARG, BAD_ARG);
         Due.same("FULL", CosetTables.FULL, FULL);
@@ -76,7 +47,7 @@ public final class PromisesTest {
         Due.same("new: clear()", x.clear(), 0);
         Due.same("new: drop(0)", x.drop(0), NONE);
         Due.same("new: relate()", x.relate(), 1);
-        dueTables("new", new CosetTables(), 1, 3, 13, 71, 461);
+        Due.tables("new", new CosetTables(), 1, 3, 13, 71, 461);
     }
 
     private static void letter() {
@@ -89,27 +60,27 @@ public final class PromisesTest {
         for (int i = 0; i < 8; i++) {
             Due.same("letter, " + i + " before it", x.letter(i % 4), i + 1);
         }
-        Due.same("word() of 8 letters", x.word(), number("01230123"));
+        Due.same("word() of 8 letters", x.word(), Words.number("01230123"));
         Due.same("letter(0) on a full word", x.letter(0), FULL);
         Due.same("letter(3) on a full word", x.letter(3), FULL);
         Due.same("letter(4) on a full word", x.letter(4), BAD_ARG);
         Due.same("letter(-1) on a full word", x.letter(-1), BAD_ARG);
-        Due.same("word() after a full word refused", x.word(), number("01230123"));
+        Due.same("word() after a full word refused", x.word(), Words.number("01230123"));
     }
 
     private static void clear() {
         CosetTables x = new CosetTables();
         Due.same("clear() of the empty word", x.clear(), 0);
-        put(x, "012");
+        Words.put(x, "012");
         Due.same("clear() of 3 letters", x.clear(), 3);
         Due.same("word() after clear", x.word(), 1);
         Due.same("clear() twice", x.clear(), 0);
-        put(x, "33333333");
+        Words.put(x, "33333333");
         Due.same("clear() of 8 letters", x.clear(), 8);
         Due.same("letter after clear", x.letter(2), 1);
-        Due.same("word() after clear and a letter", x.word(), number("2"));
-        CosetTables y = with("00");
-        put(y, "2");
+        Due.same("word() after clear and a letter", x.word(), Words.number("2"));
+        CosetTables y = Words.with("00");
+        Words.put(y, "2");
         y.clear();
         Due.same("clear() keeps relators", y.tables(3), 7);
     }
@@ -119,19 +90,19 @@ public final class PromisesTest {
         String[] inverses = {"", "1", "0", "3", "2", "31", "11", "301", "2031", "10133", "23012301", "11111111"};
         for (int i = 0; i < words.length; i++) {
             CosetTables x = new CosetTables();
-            put(x, words[i]);
+            Words.put(x, words[i]);
             Due.same("invert() of " + words[i], x.invert(), words[i].length());
-            Due.same("word() after invert of " + words[i], x.word(), number(inverses[i]));
+            Due.same("word() after invert of " + words[i], x.word(), Words.number(inverses[i]));
             Due.same("invert() again of " + words[i], x.invert(), words[i].length());
-            Due.same("word() after two inverts of " + words[i], x.word(), number(words[i]));
+            Due.same("word() after two inverts of " + words[i], x.word(), Words.number(words[i]));
         }
     }
 
     private static void relate() {
         CosetTables x = new CosetTables();
-        put(x, "00");
+        Words.put(x, "00");
         Due.same("relate() first", x.relate(), 1);
-        Due.same("relate() keeps the word", x.word(), number("00"));
+        Due.same("relate() keeps the word", x.word(), Words.number("00"));
         x.letter(0);
         Due.same("a relator is apart from the word put further", x.tables(3), 7);
         Due.same("relate() second", x.relate(), 2);
@@ -139,58 +110,58 @@ public final class PromisesTest {
         x.clear();
         Due.same("relate() of the empty word", x.relate(), 3);
         Due.same("the empty relator always holds", x.tables(2), 1);
-        put(x, "22222222");
+        Words.put(x, "22222222");
         Due.same("relate() fourth", x.relate(), 4);
         Due.same("relate() fifth", x.relate(), FULL);
         Due.same("relate() fifth again", x.relate(), FULL);
         Due.same("drop after FULL", x.drop(3), 3);
         Due.same("relate() after drop", x.relate(), 4);
-        Due.same("word() after all", x.word(), number("22222222"));
+        Due.same("word() after all", x.word(), Words.number("22222222"));
         CosetTables y = new CosetTables();
-        put(y, "02");
+        Words.put(y, "02");
         y.relate();
         y.invert();
         Due.same("invert changes the word only", y.relate(), 2);
-        dueTables("ab and its inverse", y, 1, 1, 1, 1, 1);
+        Due.tables("ab and its inverse", y, 1, 1, 1, 1, 1);
     }
 
     private static void drop() {
         CosetTables x = new CosetTables();
         Due.same("drop(0) of none", x.drop(0), NONE);
-        x = with("0", "2", "00");
+        x = Words.with("0", "2", "00");
         Due.same("drop(-1)", x.drop(-1), NONE);
         Due.same("drop(3) of 3", x.drop(3), NONE);
         Due.same("drop(LEAST)", x.drop(LEAST), NONE);
         Due.same("drop(GREATEST)", x.drop(GREATEST), NONE);
-        dueTables("nothing dropped", x, 1, 0, 0, 0, 0);
+        Due.tables("nothing dropped", x, 1, 0, 0, 0, 0);
         Due.same("drop(0) of 3", x.drop(0), 2);
-        dueTables("b, aa", x, 1, 1, 0, 0, 0);
+        Due.tables("b, aa", x, 1, 1, 0, 0, 0);
         Due.same("drop(2) of 2", x.drop(2), NONE);
         Due.same("drop(1) of 2", x.drop(1), 1);
-        dueTables("b", x, 1, 1, 1, 1, 1);
+        Due.tables("b", x, 1, 1, 1, 1, 1);
         Due.same("drop(0) of 1", x.drop(0), 0);
-        dueTables("none left", x, 1, 3, 13, 71, 461);
+        Due.tables("none left", x, 1, 3, 13, 71, 461);
         Due.same("drop(0) of none left", x.drop(0), NONE);
         dropMovesTheLaterOnesDown();
     }
 
     /** With relators aaaa.. of other lengths, the cyclic counts tell which ones are left. */
     private static void dropMovesTheLaterOnesDown() {
-        CosetTables x = with("0000", "222", "00000000", "22222222");
+        CosetTables x = Words.with("0000", "222", "00000000", "22222222");
         Due.same("aaaa, bbb, a8, b8: cyclic(24)", x.cyclic(24), 4);
         Due.same("drop(1) of 4", x.drop(1), 3);
         Due.same("aaaa, a8, b8: cyclic(24)", x.cyclic(24), 4 * 8);
         Due.same("drop(0) of 3", x.drop(0), 2);
         Due.same("a8, b8: cyclic(24)", x.cyclic(24), 8 * 8);
-        put(x, "22");
+        Words.put(x, "22");
         Due.same("relate() comes last", x.relate(), 3);
         Due.same("a8, b8, bb: cyclic(24)", x.cyclic(24), 8 * 2);
         Due.same("drop(1) of 3", x.drop(1), 2);
         Due.same("a8, bb: cyclic(24)", x.cyclic(24), 8 * 2);
         Due.same("drop(0) of 2", x.drop(0), 1);
         Due.same("bb: cyclic(24)", x.cyclic(24), 24 * 2);
-        put(x, "0");
-        Due.same("drop keeps the word", x.word(), number("0"));
+        Words.put(x, "0");
+        Due.same("drop keeps the word", x.word(), Words.number("0"));
     }
 
     private static void word() {
@@ -202,52 +173,45 @@ public final class PromisesTest {
         Due.same("word() of 03", x.word(), 19);
         x.letter(2);
         Due.same("word() of 032", x.word(), 78);
-        put(x, "00000000");
+        Words.put(x, "00000000");
         Due.same("word() of eight 0", x.word(), 65536);
-        put(x, "33333333");
+        Words.put(x, "33333333");
         Due.same("word() of eight 3", x.word(), 131071);
     }
 
     /** Known: subgroups of each index in the groups that the relators give. */
     private static void tables() {
-        dueTables("free group", with(), 1, 3, 13, 71, 461);
-        dueTables("aa", with("00"), 1, 3, 7, 23, 71);
-        dueTables("aa, bbb", with("00", "222"), 1, 1, 4, 8, 5);
-        dueTables("aa, bb", with("00", "22"), 1, 3, 3, 5, 5);
-        dueTables("ab = ba", with("0213"), 1, 3, 4, 7, 6);
-        dueTables("b", with("2"), 1, 1, 1, 1, 1);
-        dueTables("a, b", with("0", "2"), 1, 0, 0, 0, 0);
-        dueTables("four group", with("00", "22", "0202"), 1, 3, 0, 1, 0);
-        dueTables("symmetric group of 3", with("00", "222", "0202"), 1, 1, 3, 0, 0);
-        dueTables("alternating group of 4", with("00", "222", "020202"), 1, 0, 1, 4, 0);
-        dueTables("symmetric group of 4", with("00", "222", "02020202"), 1, 1, 3, 4, 0);
-        dueTables("quaternions", with("0022", "0303", "0000"), 1, 3, 0, 3, 0);
-        dueTables("klein bottle", with("0212"), 1, 3, 4, 7, 6);
-        dueTables("the last of four", with("", "01", "0213", "2"), 1, 1, 1, 1, 1);
-        dueTables("words that cancel", with("01", "2332", "", "02310132"), 1, 3, 13, 71, 461);
-    }
-
-    private static void dueTable(String what, CosetTables x, int n, int k, String row) {
-        for (int i = 0; i < 4 * n; i++) {
-            String call = what + ": image(" + n + ", " + k + ", " + i / 4 + ", " + i % 4 + ")";
-            Due.same(call, x.image(n, k, i / 4, i % 4), row.charAt(i) - '0');
-        }
+        Due.tables("free group", Words.with(), 1, 3, 13, 71, 461);
+        Due.tables("aa", Words.with("00"), 1, 3, 7, 23, 71);
+        Due.tables("aa, bbb", Words.with("00", "222"), 1, 1, 4, 8, 5);
+        Due.tables("aa, bb", Words.with("00", "22"), 1, 3, 3, 5, 5);
+        Due.tables("ab = ba", Words.with("0213"), 1, 3, 4, 7, 6);
+        Due.tables("b", Words.with("2"), 1, 1, 1, 1, 1);
+        Due.tables("a, b", Words.with("0", "2"), 1, 0, 0, 0, 0);
+        Due.tables("four group", Words.with("00", "22", "0202"), 1, 3, 0, 1, 0);
+        Due.tables("symmetric group of 3", Words.with("00", "222", "0202"), 1, 1, 3, 0, 0);
+        Due.tables("alternating group of 4", Words.with("00", "222", "020202"), 1, 0, 1, 4, 0);
+        Due.tables("symmetric group of 4", Words.with("00", "222", "02020202"), 1, 1, 3, 4, 0);
+        Due.tables("quaternions", Words.with("0022", "0303", "0000"), 1, 3, 0, 3, 0);
+        Due.tables("klein bottle", Words.with("0212"), 1, 3, 4, 7, 6);
+        Due.tables("the last of four", Words.with("", "01", "0213", "2"), 1, 1, 1, 1, 1);
+        Due.tables("words that cancel", Words.with("01", "2332", "", "02310132"), 1, 3, 13, 71, 461);
     }
 
     private static void image() {
         CosetTables x = new CosetTables();
-        dueTable("free", x, 1, 0, "0000");
-        dueTable("free", x, 2, 0, "00111100");
-        dueTable("free", x, 2, 1, "11000011");
-        dueTable("free", x, 2, 2, "11110000");
+        Due.table("free", x, 1, 0, "0000");
+        Due.table("free", x, 2, 0, "00111100");
+        Due.table("free", x, 2, 1, "11000011");
+        Due.table("free", x, 2, 2, "11110000");
         Due.same("free: image(2, 3, 0, 0)", x.image(2, 3, 0, 0), NONE);
-        dueTable("ab = ba", with("0213"), 3, 0, "0012" + "1120" + "2201");
-        dueTable("ab = ba", with("0213"), 3, 1, "1200" + "2011" + "0122");
-        dueTable("ab = ba", with("0213"), 3, 2, "1212" + "2020" + "0101");
-        dueTable("ab = ba", with("0213"), 3, 3, "1221" + "2002" + "0110");
-        dueTable("symmetric group of 3", with("00", "222", "0202"), 3, 0, "0012" + "2220" + "1101");
-        dueTable("symmetric group of 3", with("00", "222", "0202"), 3, 1, "1112" + "0020" + "2201");
-        dueTable("symmetric group of 3", with("00", "222", "0202"), 3, 2, "1121" + "0002" + "2210");
+        Due.table("ab = ba", Words.with("0213"), 3, 0, "0012" + "1120" + "2201");
+        Due.table("ab = ba", Words.with("0213"), 3, 1, "1200" + "2011" + "0122");
+        Due.table("ab = ba", Words.with("0213"), 3, 2, "1212" + "2020" + "0101");
+        Due.table("ab = ba", Words.with("0213"), 3, 3, "1221" + "2002" + "0110");
+        Due.table("symmetric group of 3", Words.with("00", "222", "0202"), 3, 0, "0012" + "2220" + "1101");
+        Due.table("symmetric group of 3", Words.with("00", "222", "0202"), 3, 1, "1112" + "0020" + "2201");
+        Due.table("symmetric group of 3", Words.with("00", "222", "0202"), 3, 2, "1121" + "0002" + "2210");
         CosetTables y = new CosetTables();
         Due.same("free: first of 5 points, point 0", y.image(5, 0, 0, 1), 0);
         Due.same("free: last of 5 points", y.image(5, 460, 0, 0), 1);
@@ -283,14 +247,14 @@ public final class PromisesTest {
 
     /** Known: homomorphisms from the group into the permutations of n points. */
     private static void actions() {
-        dueActions("free", with(), 1, 4, 36, 576, 14400);
-        dueActions("a", with("0"), 1, 2, 6, 24, 120);
-        dueActions("a, b", with("0", "2"), 1, 1, 1, 1, 1);
-        dueActions("aa, b", with("00", "2"), 1, 2, 4, 10, 26);
-        dueActions("aa, bb", with("00", "22"), 1, 4, 16, 100, 676);
-        dueActions("aaa, b", with("000", "2"), 1, 1, 3, 9, 21);
+        dueActions("free", Words.with(), 1, 4, 36, 576, 14400);
+        dueActions("a", Words.with("0"), 1, 2, 6, 24, 120);
+        dueActions("a, b", Words.with("0", "2"), 1, 1, 1, 1, 1);
+        dueActions("aa, b", Words.with("00", "2"), 1, 2, 4, 10, 26);
+        dueActions("aa, bb", Words.with("00", "22"), 1, 4, 16, 100, 676);
+        dueActions("aaa, b", Words.with("000", "2"), 1, 1, 3, 9, 21);
         // Pairs that commute: n! times the number of the partitions of n.
-        dueActions("ab = ba", with("0213"), 1, 2 * 2, 6 * 3, 24 * 5, 120 * 7);
+        dueActions("ab = ba", Words.with("0213"), 1, 2 * 2, 6 * 3, 24 * 5, 120 * 7);
     }
 
     private static void dueEven(String what, CosetTables x, int... want) {
@@ -301,13 +265,13 @@ public final class PromisesTest {
 
     /** Known: normal subgroups of each index. */
     private static void even() {
-        dueEven("free", with(), 1, 3, 4, 7, 6);
-        dueEven("ab = ba", with("0213"), 1, 3, 4, 7, 6);
-        dueEven("aa", with("00"), 1, 3, 1, 3, 1);
-        dueEven("symmetric group of 3", with("00", "222", "0202"), 1, 1, 0, 0, 0);
-        dueEven("alternating group of 4", with("00", "222", "020202"), 1, 0, 1, 0, 0);
-        dueEven("quaternions", with("0022", "0303", "0000"), 1, 3, 0, 3, 0);
-        dueEven("a, b", with("0", "2"), 1, 0, 0, 0, 0);
+        dueEven("free", Words.with(), 1, 3, 4, 7, 6);
+        dueEven("ab = ba", Words.with("0213"), 1, 3, 4, 7, 6);
+        dueEven("aa", Words.with("00"), 1, 3, 1, 3, 1);
+        dueEven("symmetric group of 3", Words.with("00", "222", "0202"), 1, 1, 0, 0, 0);
+        dueEven("alternating group of 4", Words.with("00", "222", "020202"), 1, 0, 1, 0, 0);
+        dueEven("quaternions", Words.with("0022", "0303", "0000"), 1, 3, 0, 3, 0);
+        dueEven("a, b", Words.with("0", "2"), 1, 0, 0, 0, 0);
     }
 
     private static void dueKinds(String what, CosetTables x, int... want) {
@@ -318,23 +282,23 @@ public final class PromisesTest {
 
     /** Known: classes of conjugate subgroups of each index. */
     private static void kinds() {
-        dueKinds("free", with(), 1, 3, 7, 26, 97);
-        dueKinds("ab = ba", with("0213"), 1, 3, 4, 7, 6);
-        dueKinds("aa, bbb", with("00", "222"), 1, 1, 2, 2, 1);
-        dueKinds("symmetric group of 3", with("00", "222", "0202"), 1, 1, 1, 0, 0);
-        dueKinds("alternating group of 4", with("00", "222", "020202"), 1, 0, 1, 1, 0);
-        dueKinds("symmetric group of 4", with("00", "222", "02020202"), 1, 1, 1, 1, 0);
-        dueKinds("klein bottle", with("0212"), 1, 3, 2, 5, 2);
-        dueKinds("a, b", with("0", "2"), 1, 0, 0, 0, 0);
+        dueKinds("free", Words.with(), 1, 3, 7, 26, 97);
+        dueKinds("ab = ba", Words.with("0213"), 1, 3, 4, 7, 6);
+        dueKinds("aa, bbb", Words.with("00", "222"), 1, 1, 2, 2, 1);
+        dueKinds("symmetric group of 3", Words.with("00", "222", "0202"), 1, 1, 1, 0, 0);
+        dueKinds("alternating group of 4", Words.with("00", "222", "020202"), 1, 0, 1, 1, 0);
+        dueKinds("symmetric group of 4", Words.with("00", "222", "02020202"), 1, 1, 1, 1, 0);
+        dueKinds("klein bottle", Words.with("0212"), 1, 3, 2, 5, 2);
+        dueKinds("a, b", Words.with("0", "2"), 1, 0, 0, 0, 0);
     }
 
     private static void period() {
-        CosetTables x = with("2");
+        CosetTables x = Words.with("2");
         String[] words = {"", "0", "1", "00", "000", "0000", "00000", "2", "01", "020202", "00000000"};
         // With b = 1 the one table of n points is a cycle: a power e of a has the period n / gcd(n, e).
         int[] exponents = {0, 1, -1, 2, 3, 4, 5, 0, 0, 3, 8};
         for (int i = 0; i < words.length; i++) {
-            put(x, words[i]);
+            Words.put(x, words[i]);
             for (int n = 1; n <= 5; n++) {
                 int want = n / gcd(n, exponents[i]);
                 Due.same("period(" + n + ", 0) of " + words[i], x.period(n, 0), want);
@@ -345,11 +309,11 @@ public final class PromisesTest {
         Due.same("period(3, LEAST)", x.period(3, LEAST), NONE);
         Due.same("period(3, GREATEST)", x.period(3, GREATEST), NONE);
         // Point 0 has a period of its own: it rests here where the others are moved.
-        CosetTables y = with("00", "222", "0202");
-        put(y, "0");
+        CosetTables y = Words.with("00", "222", "0202");
+        Words.put(y, "0");
         Due.same("period(3, 0) of a", y.period(3, 0), 1);
         Due.same("period(3, 1) of a", y.period(3, 1), 2);
-        put(y, "2");
+        Words.put(y, "2");
         Due.same("period(3, 0) of b", y.period(3, 0), 3);
         Due.same("period(3, 3) of b", y.period(3, 3), NONE);
     }
@@ -359,7 +323,7 @@ public final class PromisesTest {
     }
 
     private static void dueFixing(String what, CosetTables x, String word, int... want) {
-        put(x, word);
+        Words.put(x, word);
         for (int n = 1; n <= 5; n++) {
             Due.same(what + ": fixing(" + n + ") of " + word, x.fixing(n), want[n - 1]);
         }
@@ -367,46 +331,46 @@ public final class PromisesTest {
 
     /** Known: subgroups of each index that hold the word. */
     private static void fixing() {
-        dueFixing("free", with(), "", 1, 3, 13, 71, 461);
-        dueFixing("free", with(), "0110", 1, 3, 13, 71, 461);
-        dueFixing("ab = ba", with("0213"), "0213", 1, 3, 4, 7, 6);
-        dueFixing("ab = ba", with("0213"), "0", 1, 1, 1, 1, 1);
-        dueFixing("ab = ba", with("0213"), "00", 1, 3, 1, 3, 1);
-        dueFixing("symmetric group of 3", with("00", "222", "0202"), "0", 1, 0, 1, 0, 0);
-        dueFixing("symmetric group of 3", with("00", "222", "0202"), "2", 1, 1, 0, 0, 0);
-        dueFixing("symmetric group of 4", with("00", "222", "02020202"), "2", 1, 1, 0, 1, 0);
+        dueFixing("free", Words.with(), "", 1, 3, 13, 71, 461);
+        dueFixing("free", Words.with(), "0110", 1, 3, 13, 71, 461);
+        dueFixing("ab = ba", Words.with("0213"), "0213", 1, 3, 4, 7, 6);
+        dueFixing("ab = ba", Words.with("0213"), "0", 1, 1, 1, 1, 1);
+        dueFixing("ab = ba", Words.with("0213"), "00", 1, 3, 1, 3, 1);
+        dueFixing("symmetric group of 3", Words.with("00", "222", "0202"), "0", 1, 0, 1, 0, 0);
+        dueFixing("symmetric group of 3", Words.with("00", "222", "0202"), "2", 1, 1, 0, 0, 0);
+        dueFixing("symmetric group of 4", Words.with("00", "222", "02020202"), "2", 1, 1, 0, 1, 0);
     }
 
     private static void dueStill(String what, CosetTables x, String word, int want) {
-        put(x, word);
+        Words.put(x, word);
         Due.same(what + ": still() of " + word, x.still(), want);
     }
 
     private static void still() {
-        dueStill("free", with(), "", 1);
-        dueStill("free", with(), "0231", 1);
-        dueStill("free", with(), "02310132", 1);
-        dueStill("free", with(), "0213", 0);
-        dueStill("free", with(), "00000000", 0);
-        dueStill("free", with(), "0", 0);
-        dueStill("aa", with("00"), "00", 1);
-        dueStill("aa", with("00"), "11", 1);
-        dueStill("aa", with("00"), "22", 0);
-        dueStill("aa", with("00", "2"), "0", 0);
-        dueStill("a3", with("000", "2"), "0", 0);
-        dueStill("a5", with("00000", "2"), "0", 0);
-        dueStill("a4", with("0000", "2"), "00", 0);
+        dueStill("free", Words.with(), "", 1);
+        dueStill("free", Words.with(), "0231", 1);
+        dueStill("free", Words.with(), "02310132", 1);
+        dueStill("free", Words.with(), "0213", 0);
+        dueStill("free", Words.with(), "00000000", 0);
+        dueStill("free", Words.with(), "0", 0);
+        dueStill("aa", Words.with("00"), "00", 1);
+        dueStill("aa", Words.with("00"), "11", 1);
+        dueStill("aa", Words.with("00"), "22", 0);
+        dueStill("aa", Words.with("00", "2"), "0", 0);
+        dueStill("a3", Words.with("000", "2"), "0", 0);
+        dueStill("a5", Words.with("00000", "2"), "0", 0);
+        dueStill("a4", Words.with("0000", "2"), "00", 0);
         // A cycle of 7 points is too large to show; one of 5 points shows in the last tables only.
-        dueStill("a7", with("0000000", "2"), "0", 1);
-        dueStill("a5", with("00000", "2"), "0000", 0);
-        dueStill("a, b", with("0", "2"), "02020202", 1);
+        dueStill("a7", Words.with("0000000", "2"), "0", 1);
+        dueStill("a5", Words.with("00000", "2"), "0000", 0);
+        dueStill("a, b", Words.with("0", "2"), "02020202", 1);
         // aa moves no point of the table of 2 points, but every point of that of 4.
-        dueStill("a8", with("00000000", "2"), "00", 0);
-        dueStill("a8", with("00000000", "2"), "0000", 1);
+        dueStill("a8", Words.with("00000000", "2"), "00", 0);
+        dueStill("a8", Words.with("00000000", "2"), "0000", 1);
     }
 
     private static void cyclic() {
-        CosetTables x = with();
+        CosetTables x = Words.with();
         Due.same("free: cyclic(1)", x.cyclic(1), 1);
         Due.same("free: cyclic(7)", x.cyclic(7), 49);
         Due.same("free: cyclic(999)", x.cyclic(999), 998001);
@@ -415,21 +379,21 @@ public final class PromisesTest {
         for (int m : bad) {
             Due.same("cyclic(" + m + ")", x.cyclic(m), BAD_ARG);
         }
-        Due.same("a: cyclic(1000)", with("0").cyclic(1000), 1000);
-        Due.same("A: cyclic(1000)", with("1").cyclic(1000), 1000);
-        Due.same("b: cyclic(1000)", with("2").cyclic(1000), 1000);
-        Due.same("B: cyclic(1000)", with("3").cyclic(1000), 1000);
-        Due.same("a, b: cyclic(1000)", with("0", "2").cyclic(1000), 1);
-        Due.same("abAB: cyclic(1000)", with("0213").cyclic(1000), 1000000);
-        Due.same("a8: cyclic(1000)", with("00000000").cyclic(1000), 8000);
-        Due.same("A8: cyclic(12)", with("11111111").cyclic(12), 4 * 12);
-        Due.same("aaB: cyclic(10)", with("003").cyclic(10), 10);
-        Due.same("aabb: cyclic(10)", with("0022").cyclic(10), 20);
-        Due.same("aab, abb: cyclic(9)", with("002", "022").cyclic(9), 3);
-        Due.same("aab, abb: cyclic(10)", with("002", "022").cyclic(10), 1);
-        Due.same("ab, aB: cyclic(10)", with("02", "03").cyclic(10), 2);
-        Due.same("a4, b6, aabb, abab: cyclic(12)", with("0000", "222222", "0022", "0202").cyclic(12), 4);
-        Due.same("the last of four: cyclic(5)", with("", "01", "0213", "2").cyclic(5), 5);
+        Due.same("a: cyclic(1000)", Words.with("0").cyclic(1000), 1000);
+        Due.same("A: cyclic(1000)", Words.with("1").cyclic(1000), 1000);
+        Due.same("b: cyclic(1000)", Words.with("2").cyclic(1000), 1000);
+        Due.same("B: cyclic(1000)", Words.with("3").cyclic(1000), 1000);
+        Due.same("a, b: cyclic(1000)", Words.with("0", "2").cyclic(1000), 1);
+        Due.same("abAB: cyclic(1000)", Words.with("0213").cyclic(1000), 1000000);
+        Due.same("a8: cyclic(1000)", Words.with("00000000").cyclic(1000), 8000);
+        Due.same("A8: cyclic(12)", Words.with("11111111").cyclic(12), 4 * 12);
+        Due.same("aaB: cyclic(10)", Words.with("003").cyclic(10), 10);
+        Due.same("aabb: cyclic(10)", Words.with("0022").cyclic(10), 20);
+        Due.same("aab, abb: cyclic(9)", Words.with("002", "022").cyclic(9), 3);
+        Due.same("aab, abb: cyclic(10)", Words.with("002", "022").cyclic(10), 1);
+        Due.same("ab, aB: cyclic(10)", Words.with("02", "03").cyclic(10), 2);
+        Due.same("a4, b6, aabb, abab: cyclic(12)", Words.with("0000", "222222", "0022", "0202").cyclic(12), 4);
+        Due.same("the last of four: cyclic(5)", Words.with("", "01", "0213", "2").cyclic(5), 5);
     }
 
     /** In every call with n, n is tested first, before the other arguments and the tables. */
@@ -450,11 +414,11 @@ public final class PromisesTest {
     }
 
     private static void questionsChangeNothing() {
-        CosetTables x = with("00", "222");
-        put(x, "0213");
+        CosetTables x = Words.with("00", "222");
+        Words.put(x, "0213");
         for (int round = 0; round < 2; round++) {
-            Due.same("asked again: word()", x.word(), number("0213"));
-            dueTables("asked again", x, 1, 1, 4, 8, 5);
+            Due.same("asked again: word()", x.word(), Words.number("0213"));
+            Due.tables("asked again", x, 1, 1, 4, 8, 5);
             dueKinds("asked again", x, 1, 1, 2, 2, 1);
             Due.same("asked again: even(3)", x.even(3), 1);
             Due.same("asked again: actions(3)", x.actions(3), 12);
@@ -468,8 +432,8 @@ public final class PromisesTest {
     }
 
     private static void refusalsChangeNothing() {
-        CosetTables x = with("00", "222", "", "");
-        put(x, "01230123");
+        CosetTables x = Words.with("00", "222", "", "");
+        Words.put(x, "01230123");
         x.letter(4);
         x.letter(0);
         x.relate();
@@ -481,16 +445,16 @@ public final class PromisesTest {
         x.period(0, 0);
         x.period(5, 99);
         x.cyclic(1001);
-        Due.same("refused: word()", x.word(), number("01230123"));
-        dueTables("refused", x, 1, 1, 4, 8, 5);
+        Due.same("refused: word()", x.word(), Words.number("01230123"));
+        Due.tables("refused", x, 1, 1, 4, 8, 5);
         Due.same("refused: drop(3)", x.drop(3), 3);
     }
 
     private static void objectsAreApart() {
         CosetTables x = new CosetTables();
-        CosetTables y = with("0");
+        CosetTables y = Words.with("0");
         x.letter(3);
-        Due.same("apart: x.word()", x.word(), number("3"));
+        Due.same("apart: x.word()", x.word(), Words.number("3"));
         Due.same("apart: y.word()", y.word(), 1);
         Due.same("apart: x.tables(2)", x.tables(2), 3);
         Due.same("apart: y.tables(2)", y.tables(2), 1);

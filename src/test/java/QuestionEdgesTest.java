@@ -12,6 +12,7 @@ public final class QuestionEdgesTest {
                 QuestionEdgesTest::tablesOfFivePoints,
                 QuestionEdgesTest::tablesAreNone,
                 QuestionEdgesTest::tablesWithTheEmptyRelator,
+                QuestionEdgesTest::emptyRelatorInEveryQuestion,
                 QuestionEdgesTest::relatorHoldsAtEveryPoint,
                 QuestionEdgesTest::relatorGoesFromItsFirstLetterOn,
                 QuestionEdgesTest::imageOfFirstAndLastTable,
@@ -93,6 +94,27 @@ public final class QuestionEdgesTest {
         Due.tables("aA", Words.with("01"), ALL);
         Due.tables("b, empty", Words.with("2", ""), 1, 1, 1, 1, 1);
         Due.tables("empty, b", Words.with("", "2"), 1, 1, 1, 1, 1);
+    }
+
+    /** Known of the group with no relators: its subgroups of index 5, the normal ones, and their classes. */
+    private static void emptyRelatorInEveryQuestion() {
+        Due.sentence("Terms: relators may be none, or the empty word: every question answers the same");
+        CosetTables[] objects = {new CosetTables(), Words.with(""), Words.with("", "", "", "")};
+        for (CosetTables x : objects) {
+            Due.tables("free", x, ALL);
+            Due.table("least of 5", x, 5, 0, "0011" + "2200" + "1133" + "4422" + "3344");
+            Due.table("greatest of 5", x, 5, 460, "1234" + "4043" + "0422" + "3310" + "2101");
+            Due.same("actions(4)", x.actions(4), 24 * 24);
+            Due.same("even(5)", x.even(5), 6);
+            Due.same("kinds(5)", x.kinds(5), 97);
+            Due.same("cyclic(1000)", x.cyclic(1000), 1000 * 1000);
+            Due.same("still() of the empty word", x.still(), 1);
+            Words.put(x, "02");
+            Due.same("period(5, 460) of ab", x.period(5, 460), 5);
+            // Of 2 points ab rests where a and b both change the points, and there alone.
+            Due.same("fixing(2) of ab", x.fixing(2), 1);
+            Due.same("still() of ab", x.still(), 0);
+        }
     }
 
     /** In the table 0011, 2200, 1122 a rests at point 0 alone: it is none where a is a relator. */

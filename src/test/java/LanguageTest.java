@@ -26,6 +26,8 @@ import java.util.Map;
 import java.util.Set;
 import java.util.TreeMap;
 import java.util.TreeSet;
+import javax.lang.model.element.ElementKind;
+import javax.lang.model.element.ExecutableElement;
 import javax.lang.model.element.Modifier;
 import javax.lang.model.element.VariableElement;
 import javax.lang.model.type.ArrayType;
@@ -68,6 +70,9 @@ public final class LanguageTest extends TreePathScanner<Void, Void> {
 
     private static final Set<TypeKind> NUMBERS = EnumSet.of(
             TypeKind.INT, TypeKind.LONG, TypeKind.SHORT, TypeKind.BYTE, TypeKind.CHAR, TypeKind.BOOLEAN);
+
+    private static final Set<ElementKind> NAMED = EnumSet.of(
+            ElementKind.FIELD, ElementKind.PARAMETER, ElementKind.LOCAL_VARIABLE, ElementKind.METHOD);
 
     private final Trees trees;
     private final CompilationUnitTree unit;
@@ -176,7 +181,18 @@ public final class LanguageTest extends TreePathScanner<Void, Void> {
         if (answer != null && typeOf(answer).getKind() != TypeKind.VOID) {
             Due.holds("rules 2 and 4: answers a number: " + method, NUMBERS.contains(typeOf(answer).getKind()));
         }
-        return super.visitMethod(tree, nothing);
+        Due.holds("rule 4: no array made by a call: " + method,
+                !((ExecutableElement) trees.getElement(getCurrentPath())).isVarArgs());
+        super.visitMethod(tree, nothing);
+        method = "";
+        return null;
+    }
+
+    @Override
+    public Void visitIdentifier(IdentifierTree tree, Void nothing) {
+        Due.holds("rule 3: the name of a number, an array or a method: " + at(tree),
+                NAMED.contains(trees.getElement(getCurrentPath()).getKind()));
+        return super.visitIdentifier(tree, nothing);
     }
 
     @Override
@@ -263,7 +279,8 @@ public final class LanguageTest extends TreePathScanner<Void, Void> {
         String name = tree.getMethodSelect().toString();
         Due.holds("rule 3: a method of the class: " + at(tree), calls.containsKey(name));
         Due.same("rule 10: calls with " + at(tree) + " among their arguments", callsAround, 0);
-        if (calls.containsKey(name)) {
+        Due.holds("a call stands in a method: " + at(tree), calls.containsKey(method));
+        if (calls.containsKey(name) && calls.containsKey(method)) {
             calls.get(method).add(name);
         }
         callsAround++;
